@@ -350,7 +350,7 @@ public final class SwingDesk {
 
     /** The tracks, their places and lines in each cue, and the lifts. */
     private static final class Show {
-        private static final int FAR_STEP = 6;
+        private static final int MOST_STEP = 5;
         private static final int CLEAR_OF_FOES = 2;
 
         private int tracks;
@@ -398,7 +398,7 @@ public final class SwingDesk {
         }
 
         boolean isIn(int track, int cue) {
-            return placeAt(track, cue) != NONE;
+            return isTrack(track) && isCue(cue) && places[track * CUES + cue] != NONE;
         }
 
         int mustAt(int track, int cue) {
@@ -490,7 +490,7 @@ public final class SwingDesk {
 
         private boolean isFarStep(int track, int next, int cue) {
             return isIn(track, cue) && isIn(next, cue + 1)
-                    && Math.abs(placeAt(track, cue) - placeAt(next, cue + 1)) >= FAR_STEP;
+                    && Math.abs(placeAt(track, cue) - placeAt(next, cue + 1)) > MOST_STEP;
         }
 
         boolean canBeFoes(int track, int other) {
@@ -623,10 +623,6 @@ public final class SwingDesk {
         boolean isFresh(int person, int track) {
             int since = daysSinceDid(person, track);
             return since != NONE && since < (isOfKind(person, SWING) ? FRESH_DAYS_OF_SWINGS : FRESH_DAYS);
-        }
-
-        boolean isStale(int person, int track) {
-            return knows(person, track) && !isFresh(person, track);
         }
 
         boolean canPlay(int person, int track, int dress) {
@@ -1116,7 +1112,8 @@ public final class SwingDesk {
         private int staleTracks(int person) {
             int bits = 0;
             for (int track = 0; track < show.tracks(); track++) {
-                bits |= company.isStale(person, track) ? 1 << track : 0;
+                boolean isStale = company.knows(person, track) && !company.isFresh(person, track);
+                bits |= isStale ? 1 << track : 0;
             }
             return bits;
         }
