@@ -22,6 +22,7 @@ public final class CastEdgesTest {
         lossOfLiftsByDays();
         lossOfLiftsByOwners();
         lossOfLiftsThatAreCut();
+        lossOfManyLiftsOfOne();
         firstByTracks();
         cutIsBehindAll();
         triesToTheLast();
@@ -380,6 +381,34 @@ public final class CastEdgesTest {
         due.is("16 two LIFTS", x.cast(ALL), 32);
         x.out(1, 30);
         due.is("16 none is CUT", x.cast(ALL), 0);
+    }
+
+    /** One TRACK lifts others, or is lifted by them, in CUES of their own. */
+    private static void lossOfManyLiftsOfOne() {
+        for (int one = 0; one < 4; one++) {
+            SwingDesk x = Due.desk(4, 5);
+            Due.people(x, 4, 0, 5);
+            for (int track = 0; track < 4; track++) {
+                x.did(track, track);
+                x.in(track, track, 2 * track, 0);
+                x.in(one, track, 2 * one, 0);
+            }
+            int lifts = 0;
+            for (int other = 0; other < 4; other++) {
+                lifts += other == one ? 0 : 1;
+                x.lift(other, one, other);
+                due.is("16 TRACK " + one + " lifts " + lifts, x.cast(ALL), 6 * lifts);
+            }
+            for (int other = 0; other < 4; other++) {
+                x.lift(other, other, one);
+            }
+            due.is("16 TRACK " + one + " is lifted by three", x.cast(ALL), 18);
+            for (int other = 0; other < 4; other++) {
+                lifts -= other == one ? 0 : 1;
+                x.rehearse(other, one);
+                due.is("16 one pair more is REHEARSED", x.cast(ALL), 6 * lifts);
+            }
+        }
     }
 
     /** "of several the first: by TRACKS, the lesser PERSON at the first at which they differ" */

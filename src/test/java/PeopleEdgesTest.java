@@ -291,7 +291,13 @@ public final class PeopleEdgesTest {
         due.is("27 one pair still", x.count(6), 1);
         due.is("13 off, the other way", x.feud(9, 0, 0), 1);
         due.is("13 it was off", x.feud(0, 9, 0), 0);
+        due.is("13 it was off, the other way", x.feud(9, 0, 0), 0);
         due.is("27 no pair", x.count(6), 0);
+        due.is("13 on again, the other way", x.feud(9, 0, 1), 0);
+        due.is("13 off again, the other way", x.feud(9, 0, 0), 1);
+        due.is("13 it was off, asked at once", x.feud(9, 0, 1), 0);
+        due.is("13 off, this way", x.feud(0, 9, 0), 1);
+        due.is("13 it was off, asked at once this way", x.feud(0, 9, 0), 0);
     }
 
     private static void feudsOfAll() {

@@ -6,6 +6,7 @@ public final class RehearsalEdgesTest {
     public static void main(String[] args) {
         noTracks();
         twoForEachTrack();
+        manyForOneAreNoneForAnother();
         freshByDays();
         hoursByCues();
         mostHours();
@@ -65,6 +66,25 @@ public final class RehearsalEdgesTest {
         y.person(0, 5);
         y.own(1, 0);
         planIs("one FRESH and an OWNER who does not KNOW it", y, NO, NO, NO);
+    }
+
+    /** Each TRACK needs its own two, however many there are for the TRACKS beside it. */
+    private static void manyForOneAreNoneForAnother() {
+        for (int lacking = 0; lacking < 3; lacking++) {
+            for (int knowers = 0; knowers <= 3; knowers++) {
+                SwingDesk x = Due.desk(3, 5);
+                Due.people(x, 10, 0, 5);
+                for (int person = 0; person < 10; person++) {
+                    for (int track = 0; track < 3; track++) {
+                        if (track != lacking || person < knowers) {
+                            x.did(person, track);
+                        }
+                    }
+                }
+                x.days(30);
+                due.is("22 " + knowers + " for TRACK " + lacking, x.plan(), knowers < 2 ? NO : 6);
+            }
+        }
     }
 
     /** FRESH "below 30 (below 60, of SWINGS)" */
