@@ -5,6 +5,7 @@ public final class ModelTest {
     private static final int RUNS = 250;
     private static final int FULL_NIGHTS = 1500;
     private static final int STALE_COMPANIES = 1500;
+    private static final int HURT_NIGHTS = 600;
     private static final int CALLS = 512;
     private static final long MOST_WAYS_OF_PLANS = 20000;
     private static final int NONE = Due.NONE;
@@ -38,6 +39,10 @@ public final class ModelTest {
         }
         for (int run = RUNS + FULL_NIGHTS; run < RUNS + FULL_NIGHTS + STALE_COMPANIES; run++) {
             new ModelTest(due, run).planForStale();
+        }
+        int behind = RUNS + FULL_NIGHTS + STALE_COMPANIES;
+        for (int run = behind; run < behind + HURT_NIGHTS; run++) {
+            new ModelTest(due, run).hurtOften();
         }
         due.end();
     }
@@ -80,6 +85,50 @@ public final class ModelTest {
             callTonight(19);
             callTonight(19);
             callPeople(10);
+        }
+    }
+
+    /** TRACKS of few CUES, so that one PERSON has several and those who take over can hold several, too. */
+    private void hurtOften() {
+        int tracks = 3 + random.nextInt(6);
+        int people = 2 + random.nextInt(4);
+        makeSparse(tracks, people);
+        for (int i = random.nextInt(4); i >= 0; i--) {
+            callPeople(7);
+        }
+        same("cast", desk.cast(4000), plain.cast(4000), 4000);
+        // Who comes later is no way for the CAST, but can take over.
+        for (int person = people; person < people + 3; person++) {
+            addKnower(person, tracks);
+        }
+        for (int i = 0; i < 8; i++) {
+            callTonight(19);
+            // Back again, who was HURT can take over, or be HURT from an earlier CUE on.
+            callTonight(15);
+            callShow(2);
+        }
+    }
+
+    private void makeSparse(int tracks, int people) {
+        for (int track = 0; track < tracks; track++) {
+            same("track", desk.track(dress), plain.track(dress), dress);
+            for (int i = random.nextInt(4); i > 0; i--) {
+                int cue = random.nextInt(cues), place = random.nextInt(10);
+                same("in", desk.in(track, cue, place, 0), plain.in(track, cue, place, 0), track, cue, place, 0);
+            }
+        }
+        for (int person = 0; person < people; person++) {
+            addKnower(person, tracks);
+        }
+    }
+
+    private void addKnower(int person, int tracks) {
+        int kind = random.nextInt(4);
+        same("person", desk.person(kind, dress), plain.person(kind, dress), kind, dress);
+        for (int track = 0; track < tracks; track++) {
+            if (random.nextInt(3) > 0) {
+                same("did", desk.did(person, track), plain.did(person, track), person, track);
+            }
         }
     }
 
